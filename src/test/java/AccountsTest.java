@@ -120,6 +120,40 @@ public final class AccountsTest {
         Expect.fails("house(4)", ARGUMENT, () -> x.house(4));
     }
 
+    private static void twentyLots() {
+        LotSales x = new LotSales();
+        x.setCredit(0, 999999);
+        for (int lot = 0; lot < 20; lot++) {
+            x.addLot(0, 1, 0);
+            x.order(lot, 0, 50);
+            x.open(lot);
+        }
+        account(x, true, 0, 999999, 0, 0, 0, 0, 1000, 20);
+        Expect.due("open ones", x.lots(1), 20);
+        Expect.due("orders", x.orders(-1), 20);
+        for (int lot = 0; lot < 20; lot++) {
+            x.close(lot);
+        }
+        account(x, true, 0, 999999, 200, 40, 240, 20, 200, 0);
+        account(x, false, 0, 200, 100, 0, 100, 20, 0);
+        Expect.due("income", x.house(0), 140);
+        Expect.due("audit", x.audit(), 0);
+        Expect.due("no orders", x.orders(-1), 0);
+    }
+
+    private static void premiumsOfTheFirstAndTheLast() {
+        LotSales x = new LotSales();
+        for (int person = 0; person < 10; person += 9) {
+            int lot = x.addLot(person == 0 ? 0 : 5, 1, 90);
+            x.open(lot);
+            x.bid(lot, person, 90);
+            x.close(lot);
+        }
+        Expect.due("income of both", x.house(0), 2 * (22 + 9));
+        Expect.due("prices of both", x.house(1), 180);
+        Expect.due("what both get", x.house(3), 2 * 81);
+    }
+
     private static void soldShare() {
         LotSales x = new LotSales();
         Expect.fails("soldShare at first", ArithmeticException.class, x::soldShare);
@@ -145,6 +179,8 @@ public final class AccountsTest {
         sellers();
         commissionAtMostThePrice();
         house();
+        twentyLots();
+        premiumsOfTheFirstAndTheLast();
         soldShare();
         Expect.end();
     }

@@ -253,6 +253,41 @@ public final class ClosingTest {
         Expect.due("the number of 9", x.limit(2, 1, 2), 8);
     }
 
+    private static void groupOrdersOfOne() {
+        LotSales x = new LotSales();
+        x.addLot(2, 1, 0);
+        x.addLot(2, 1, 0);
+        x.order(0, 0, 1);
+        x.order(1, 0, 1);
+        x.order(0, 1, 1);
+        x.order(1, 1, 2);
+        x.group(0, 1);
+        Expect.due("1 and 1", x.maximum(2, 0), 2);
+        Expect.due("1 and 2", x.maximum(2, 1), 3);
+        Expect.due("undo group", x.undo(), 6);
+        Expect.due("the lots wait", x.lots(0), 2);
+        Expect.due("their orders", x.orders(-1), 4);
+    }
+
+    private static void splitOrdersOfOne() {
+        LotSales x = new LotSales();
+        for (int i = 0; i < 5; i++) {
+            x.addLot(0, 2, 0);
+        }
+        for (int i = 0; i < 39; i++) {
+            x.order(i / 10, i % 10, 2);
+        }
+        Expect.fails("30 and twice 9 orders of 1", STATE, () -> x.split(3, 2));
+        for (int bidder = 8; bidder >= 5; bidder--) {
+            x.cancel(3, bidder);
+        }
+        x.order(4, 0, 2);
+        Expect.fails("31 and twice 5 orders of 1", STATE, () -> x.split(3, 2));
+        x.cancel(4, 0);
+        Expect.due("30 and twice 5 orders of 1", x.split(3, 2), 5);
+        Expect.due("one of them", x.maximum(6, 4), 1);
+    }
+
     private static void groupFaults() {
         LotSales x = new LotSales();
         x.addLot(0, 10, 45000);
@@ -314,7 +349,9 @@ public final class ClosingTest {
         splitFaults();
         splitTooManyOrders();
         splitLeftOutOrdersDoNotCount();
+        splitOrdersOfOne();
         group();
+        groupOrdersOfOne();
         groupFaults();
         whyAndSold();
         Expect.end();

@@ -95,6 +95,12 @@ public final class LedgerTextsChangesTest {
         x.undo();
         Expect.due("undone", x.audit(), 0);
         x.undo();
+        x.undo();
+        Expect.due("events after undo", x.events(-1), 248);
+        Expect.due("back again", x.order(1, 3, 999), 1);
+        Expect.due("the 249th event now", x.event(248, 3), 999);
+        x.order(1, 3, 1000);
+        x.undo();
         Expect.due("one event less", x.events(-1), 249);
         Expect.due("the share before", x.soldShare(), 0.0);
     }
@@ -168,6 +174,18 @@ public final class LedgerTextsChangesTest {
         LotSales x = new LotSales();
         x.addLot(0, 1, 0);
         read(x, text.toString(), 1);
+    }
+
+    private static void nothingIsReadOfTheTextBefore() {
+        LotSales x = new LotSales();
+        read(x, "b0,1,10;o1", 0);
+        append(x, "b0");
+        Expect.fails("a text that ends too early behind a longer one", ARGUMENT, x::read);
+        Expect.due("its end", x.faultPosition(), 2);
+        read(x, "o0", 0);
+        append(x, "o");
+        Expect.fails("a letter alone", ARGUMENT, x::read);
+        Expect.due("its end", x.faultPosition(), 1);
     }
 
     private static void readCommands() {
@@ -316,6 +334,140 @@ public final class LedgerTextsChangesTest {
         Expect.due("changes after restore", x.undo(), 0);
     }
 
+    private static void auditOfTheFirst() {
+        LotSales x = new LotSales();
+        x.addLot(0, 1, 500);
+        x.addLot(0, 1, 0);
+        for (int i = 0; i < 247; i++) {
+            x.order(1, 0, 100 + i);
+        }
+        x.open(0);
+        x.open(1);
+        x.order(1, 0, 1000);
+        x.close(0);
+        Expect.due("seller 0 differs", x.audit(), 1);
+        x.close(1);
+        Expect.due("bidder 0 differs too", x.audit(), 2);
+    }
+
+    private static void firstEventsAreClosings() {
+        LotSales x = new LotSales();
+        x.addLot(0, 1, 500);
+        read(x, "o0;h0", 2);
+        for (int event = 0; event < 2; event++) {
+            Expect.due("kind of " + event, x.event(event, 0), event == 0 ? 1 : 4);
+        }
+        Expect.due("audit", x.audit(), 0);
+    }
+
+    private static void restoreAfterOtherEvents() {
+        LotSales x = new LotSales();
+        x.save();
+        x.addLot(1, 2, 3);
+        x.setRows(2, 700, 70);
+        x.order(0, 5, 60);
+        x.open(0);
+        x.bid(0, 6, 80);
+        x.close(0);
+        x.restore();
+        Expect.due("the table", x.row(3, 0), 2000);
+        Expect.due("a bound", x.row(2, 0), 500);
+        Expect.due("an increment", x.row(2, 1), 50);
+        x.addLot(4, 5, 6);
+        int[] fresh = {0, 4, 5, 6, 0};
+        for (int what = 0; what <= 4; what++) {
+            Expect.due("a new lot in place of another, " + what, x.lot(0, what), fresh[what]);
+        }
+        Expect.due("it has no orders", x.orders(0), 0);
+        Expect.fails("it was not closed", java.util.NoSuchElementException.class, () -> x.why(0));
+        Expect.fails("it is not sold", java.util.NoSuchElementException.class, () -> x.sold(0, true));
+        Expect.due("it has no bids", x.open(0), 0);
+        Expect.due("no limits", x.standing(0, 6), 0);
+        x.order(0, 7, 90);
+        x.bid(0, 8, 40);
+        x.close(0);
+        x.save();
+        for (int i = 0; i < 5; i++) {
+            x.undo();
+        }
+        x.addLot(2, 9, 999);
+        x.setRows(0, 0, 9);
+        x.open(0);
+        x.close(0);
+        x.offer(0, 77);
+        x.open(0);
+        x.restore();
+        int[][] events = {{1, 0, -1, 0}, {0, 0, 7, 90}, {2, 0, 8, 40}, {3, 0, 7, 50}};
+        for (int event = 0; event < 4; event++) {
+            for (int what = 0; what < 4; what++) {
+                Expect.due("event " + event + ", " + what, x.event(event, what), events[event][what]);
+            }
+        }
+        int[] lot = {2, 4, 5, 6, 1};
+        for (int what = 0; what <= 4; what++) {
+            Expect.due("the lot, " + what, x.lot(0, what), lot[what]);
+        }
+        Expect.due("the buyer", x.sold(0, false), 7);
+        Expect.due("the price", x.sold(0, true), 50);
+        Expect.due("why", x.why(0), 0);
+        Expect.due("the first increment", x.row(0, 1), 10);
+        Expect.due("the last bound", x.row(3, 0), 2000);
+        Expect.due("audit", x.audit(), 0);
+    }
+
+    private static void restoreAfterEventsOfAnotherLot() {
+        LotSales x = new LotSales();
+        x.addLot(0, 1, 0);
+        x.addLot(1, 1, 0);
+        x.order(1, 2, 50);
+        x.save();
+        x.undo();
+        x.order(0, 3, 60);
+        x.open(1);
+        x.restore();
+        int[] want = {0, 1, 2, 50};
+        for (int what = 0; what < 4; what++) {
+            Expect.due("event 0, " + what, x.event(0, what), want[what]);
+        }
+    }
+
+    private static void newLotInPlaceOfAnOpenOne() {
+        LotSales x = new LotSales();
+        x.save();
+        x.addLot(0, 1, 0);
+        x.order(0, 3, 60);
+        x.order(0, 0, 70);
+        x.open(0);
+        x.bid(0, 1, 80);
+        x.bid(0, 0, 90);
+        x.restore();
+        x.addLot(0, 1, 0);
+        Expect.due("orders", x.orders(0), 0);
+        Expect.due("price", x.open(0), 0);
+        Expect.due("limits", x.standing(0, 6), 0);
+    }
+
+    private static void restoreOfOpenLots() {
+        LotSales x = new LotSales();
+        x.addLot(0, 1, 0);
+        x.open(0);
+        x.bid(0, 3, 50);
+        x.order(0, 4, 60);
+        x.save();
+        x.close(0);
+        x.restore();
+        int[][] limits = {{4, 60, 2}, {3, 50, 1}};
+        for (int rank = 0; rank < 2; rank++) {
+            for (int what = 0; what < 3; what++) {
+                Expect.due("limit " + rank + " " + what, x.limit(0, rank, what), limits[rank][what]);
+            }
+        }
+        x.bid(0, 3, 70);
+        x.undo();
+        Expect.due("the bid of before", x.limit(0, 1, 1), 50);
+        Expect.due("its time", x.limit(0, 1, 2), 1);
+    }
+
     private static void restoreAndFailedCalls() {
         LotSales x = new LotSales();
         x.addLot(0, 1, 0);
@@ -334,12 +486,19 @@ public final class LedgerTextsChangesTest {
         appendChars();
         faults();
         longestFaults();
+        nothingIsReadOfTheTextBefore();
         readCommands();
         refusedInText();
         faultPosition();
         undo();
         undoOfEachChange();
+        auditOfTheFirst();
+        firstEventsAreClosings();
         saveAndRestore();
+        restoreAfterOtherEvents();
+        restoreAfterEventsOfAnotherLot();
+        newLotInPlaceOfAnOpenOne();
+        restoreOfOpenLots();
         restoreAndFailedCalls();
         Expect.end();
     }

@@ -116,6 +116,7 @@ public final class LotsAndStepsTest {
         Expect.fails("increment 5001", ARGUMENT, () -> x.setRows(3, 102, 5001));
         Expect.fails("a first bound of 1", ARGUMENT, () -> x.setRows(0, 1, 1));
         Expect.fails("a bound of -1", ARGUMENT, () -> x.setRows(0, -1, 1));
+        Expect.fails("a great number of rows", INDEX, () -> x.setRows(Integer.MAX_VALUE, 0, 1));
         x.addLot(0, 1, 0);
         x.open(0);
         Expect.fails("rows while a lot is open", STATE, () -> x.setRows(0, 0, 1));
@@ -169,6 +170,19 @@ public final class LotsAndStepsTest {
         }
     }
 
+    private static void stepsOfOne() {
+        LotSales x = new LotSales();
+        x.setRows(0, 0, 1);
+        Expect.due("step(1)", x.step(1), 1);
+        Expect.due("step(99999)", x.step(99999), 99999);
+        Expect.due("nextStep(0)", x.nextStep(0), 1);
+        x.setRows(1, 10, 3);
+        Expect.due("step(12)", x.step(12), 10);
+        Expect.due("step(13)", x.step(13), 13);
+        Expect.due("nextStep(9)", x.nextStep(9), 10);
+        Expect.due("nextStep(10)", x.nextStep(10), 13);
+    }
+
     private static void nextStep() {
         LotSales x = new LotSales();
         int[][] want = {{0, 10}, {9, 10}, {10, 20}, {90, 100}, {95, 100}, {100, 120}, {480, 500}, {499, 500},
@@ -207,6 +221,7 @@ public final class LotsAndStepsTest {
         setRows();
         row();
         step();
+        stepsOfOne();
         nextStep();
         setCredit();
         Expect.end();

@@ -144,6 +144,7 @@ public final class OrdersAndBidsTest {
         LotSales x = withLots(1000);
         x.open(0);
         x.bid(0, 1, 700);
+        x.bid(0, 0, 800);
         x.close(0);
         x.offer(0, 500);
         Expect.due("the bids of before do not count", x.open(0), 10);
@@ -282,6 +283,20 @@ public final class OrdersAndBidsTest {
         Expect.fails("limit(0, 0, 0) when closed", STATE, () -> x.limit(0, 0, 0));
     }
 
+    private static void bidAndOrderOfOneLimit() {
+        LotSales x = withLots(0, 0);
+        x.order(1, 5, 90);
+        x.order(0, 4, 500);
+        x.open(0);
+        x.open(1);
+        x.bid(0, 3, 300);
+        x.order(0, 3, 319);
+        // Another lot is looked at between, where the limit of bidder 3 has another time.
+        x.bid(1, 3, 100);
+        Expect.due("time on the other lot", x.limit(1, 0, 2), 5);
+        limit(x, 1, 3, 300, 3);
+    }
+
     private static void orderBeforeBid() {
         LotSales x = withLots(0);
         x.order(0, 1, 300);
@@ -330,6 +345,61 @@ public final class OrdersAndBidsTest {
         Expect.due("above the house", x.priceIf(0, 0, 600), 500);
     }
 
+    private static void amountsOfOne() {
+        LotSales x = withLots(0, 2, 3);
+        x.setRows(0, 0, 1);
+        x.order(0, 9, 1);
+        Expect.due("open at 1", x.open(0), 1);
+        standing(x, 0, 1, 9, 2, 1, 1, 0, 1);
+        limit(x, 0, 9, 1, 1);
+        x.bid(0, 0, 2);
+        limit(x, 0, 0, 2, 2);
+        limit(x, 1, 9, 1, 1);
+        Expect.due("the leader's own step", x.priceIf(0, 0, 2), 2);
+        Expect.due("a step of 1", x.priceIf(0, 9, 1), 2);
+        Expect.due("the house at 1", x.open(1), 1);
+        standing(x, 1, 1, 10, 2, 0, 1, 0, 0);
+        Expect.due("a bid of 2", x.bid(1, 4, 2), 2);
+        standing(x, 1, 2, 4, 3, 1, 2, 1, 1);
+        Expect.due("the house at 2", x.open(2), 1);
+        Expect.due("a bid of the limit of the house", x.bid(2, 4, 2), 2);
+        standing(x, 2, 2, 4, 3, 0, 2, 2, 1);
+        x.undo();
+        x.undo();
+        x.addLot(0, 1, 0);
+        x.open(3);
+        Expect.due("a bid of 1", x.bid(3, 0, 1), 1);
+        x.order(3, 5, 1);
+        x.order(3, 4, 1);
+        for (int rank = 0; rank < 3; rank++) {
+            Expect.due("rank " + rank + " with 1", x.limit(3, rank, 0), new int[] {0, 5, 4}[rank]);
+        }
+        Expect.due("another by the leader", x.wouldRefuse(false, 3, 0, 1), 2);
+        Expect.due("another of 1", x.wouldRefuse(false, 3, 1, 1), 3);
+    }
+
+    private static void limitOfTheHouse() {
+        int[][] want = {{10, 0}, {11, 10}, {100, 90}, {101, 100}, {120, 100}, {121, 120}, {90000, 89900}};
+        for (int[] pair : want) {
+            LotSales x = withLots(pair[0]);
+            x.open(0);
+            Expect.due("limit of the house of " + pair[0], x.standing(0, 4), pair[1]);
+            Expect.due("leader with " + pair[0], x.standing(0, 1), pair[1] == 0 ? -1 : 10);
+        }
+    }
+
+    private static void priceIfTies() {
+        LotSales x = withLots(0);
+        x.order(0, 9, 200);
+        x.order(0, 0, 200);
+        x.open(0);
+        limit(x, 0, 9, 200, 1);
+        Expect.due("the second one at the limit of both", x.priceIf(0, 0, 200), 200);
+        Expect.due("a third one at the limit of both", x.priceIf(0, 5, 200), 200);
+        Expect.due("the first one above", x.priceIf(0, 9, 220), 220);
+        Expect.due("nothing is changed in the leader", x.standing(0, 1), 9);
+    }
+
     public static void main(String[] args) {
         order();
         fortyOrders();
@@ -343,9 +413,13 @@ public final class OrdersAndBidsTest {
         wouldRefuse();
         standingOfBiddersAndHouse();
         limits();
+        bidAndOrderOfOneLimit();
         orderBeforeBid();
         priceIf();
         priceIfAgainstTheHouse();
+        amountsOfOne();
+        limitOfTheHouse();
+        priceIfTies();
         Expect.end();
     }
 }
