@@ -1,5 +1,3 @@
-import java.lang.reflect.InvocationTargetException;
-import java.lang.reflect.Method;
 import java.util.ArrayList;
 import java.util.Arrays;
 import java.util.List;
@@ -240,8 +238,8 @@ public final class ModelTest {
 
     private void compare(String name, Object[] arguments) {
         String call = name + Arrays.toString(arguments);
-        Object got = answer(real, name, arguments);
-        Object want = answer(model, name, arguments);
+        Object got = Calls.answer(real, name, arguments);
+        Object want = Calls.answer(model, name, arguments);
         told.add(call + " " + want);
         if (!got.equals(want) && !isWrong) {
             isWrong = true;
@@ -250,22 +248,6 @@ public final class ModelTest {
                 System.out.println("    " + line);
             }
         }
-    }
-
-    private static Object answer(Object object, String name, Object[] arguments) {
-        for (Method method : object.getClass().getMethods()) {
-            if (method.getName().equals(name) && method.getParameterCount() == arguments.length) {
-                try {
-                    Object result = method.invoke(object, arguments);
-                    return result == null ? "nothing" : result;
-                } catch (InvocationTargetException e) {
-                    return e.getCause().getClass().getName();
-                } catch (IllegalAccessException e) {
-                    return "no access";
-                }
-            }
-        }
-        return "no such method";
     }
 
     /** Looks at everything that can be looked at. */
