@@ -15,8 +15,13 @@ final class Run {
     private final LotSales real = new LotSales();
     private final Model model = new Model();
 
+    /** The sentence as the document has it; behind it, in brackets, what else tells the run from others. */
     Run(String sentence) {
         this.sentence = sentence;
+        int bracket = sentence.indexOf(" [");
+        if (!Page.isSaid(bracket < 0 ? sentence : sentence.substring(0, bracket))) {
+            Expect.fault("the document does not say '" + sentence + "'");
+        }
     }
 
     // Calls that throw nothing.
@@ -38,9 +43,11 @@ final class Run {
         return this;
     }
 
-    Run times(int times, String call) {
+    Run times(int times, String... calls) {
         for (int i = 0; i < times; i++) {
-            does(call);
+            for (String call : calls) {
+                does(call);
+            }
         }
         return this;
     }
@@ -51,6 +58,19 @@ final class Run {
             does(call.replace("#", Integer.toString(number)));
         }
         return this;
+    }
+
+    /** What the ledger holds of an event. */
+    Run event(int event, int kind, int lot, int bidder, int amount) {
+        String call = "event(" + event + ", ";
+        return due(call + "0)", kind).due(call + "1)", lot).due(call + "2)", bidder).due(call + "3)", amount);
+    }
+
+    /** After the snapshot was restored the call is the one change that can be undone. */
+    Run change(String call) {
+        does("restore()");
+        int before = length();
+        return does(call).due("undo()", 0).isAsAfter(before);
     }
 
     /** Appends the text, a character a call. */
